@@ -414,15 +414,16 @@ public final class TiedRow {
         if (!isMeasure(m) || !world.isThing(a) || p < 0 || p >= world.things) {
             return BAD;
         }
-        if (leastsOf(m) == null) {
-            return noLeast(m);
+        if (isSpent(m)) {
+            return SPENT;
         }
         theSearch().pin(a, p);
         forget();
         int value = valueOr(leastsOf(m), NONE);
         theSearch().unpin();
         forget();
-        return value;
+        // An order that has it there is allowed, if there is one: only without it this has to be asked.
+        return value == NONE && leastsOf(PLAIN) == null ? found(NOUGHT) : value;
     }
 
     public int places(int m, int a) {
@@ -1548,6 +1549,7 @@ public final class TiedRow {
         private final int[] nextCost = new int[(THINGS_MOST + 1) * THINGS_MOST];
         private SetSearch among = null;
         private boolean adds = false;
+        private boolean isFilled = false;
         private int pinnedThing = NONE;
         private int pinnedPlace = NONE;
 
@@ -1559,9 +1561,12 @@ public final class TiedRow {
         boolean solve(int m, SetSearch others) {
             among = others;
             adds = m == SUM || m == PROFILE;
+            isFilled = false;
             fillGapCosts(m);
             if (others == null) {
                 fillFitting();
+            } else {
+                others.fillLeast();
             }
             for (int set = world.everything(); set >= 0; set--) {
                 for (int last = 0; last < lastsOf(set); last++) {
@@ -1570,11 +1575,7 @@ public final class TiedRow {
                     }
                 }
             }
-            if (best[0] >= NEVER) {
-                return false;
-            }
-            fillLeast();
-            return true;
+            return best[0] < NEVER;
         }
 
         private static int stateOf(int set, int last) {
@@ -1643,7 +1644,7 @@ public final class TiedRow {
 
         private int nextOf(int set, int last) {
             if (among != null) {
-                return among.leastNext[stateOf(set, last)];
+                return among.nextInLeast(set, last);
             }
             return fitting[set] & following[set == 0 ? THINGS_MOST : last];
         }
@@ -1665,19 +1666,34 @@ public final class TiedRow {
             return adds ? least + gapCost[set] : Math.max(least, gapCost[set]);
         }
 
-        int nextInLeast(int set, int last) {
-            return leastNext[stateOf(set, last)];
+        /** Many calls ask for the value alone: so the orders are looked for when they are first needed. */
+        void fillLeast() {
+            if (isFilled) {
+                return;
+            }
+            isFilled = true;
+            for (int set = world.everything(); set >= 0; set--) {
+                for (int last = 0; last < lastsOf(set); last++) {
+                    if (isState(set, last)) {
+                        fillLeastFrom(set, last);
+                    }
+                }
+            }
         }
 
-        private int leastNextOf(int set, int last) {
+        private void fillLeastFrom(int set, int last) {
+            int state = stateOf(set, last);
             int next = nextOf(set, last);
             int least = 0;
+            int sum = set == world.everything() ? 1 : 0;
             for (int x = 0; x < world.things; x++) {
                 if ((next >> x & 1) != 0 && goesOnLeast(set, last, x)) {
                     least |= 1 << x;
+                    sum += number[stateOf(set | 1 << x, x)];
                 }
             }
-            return least;
+            leastNext[state] = least;
+            number[state] = sum;
         }
 
         private boolean goesOnLeast(int set, int last, int x) {
@@ -1688,29 +1704,9 @@ public final class TiedRow {
             return adds ? rest + gapCost[set] == best[stateOf(set, last)] : rest <= best[0];
         }
 
-        private void fillLeast() {
-            for (int set = world.everything(); set >= 0; set--) {
-                for (int last = 0; last < lastsOf(set); last++) {
-                    if (isState(set, last)) {
-                        leastNext[stateOf(set, last)] = leastNextOf(set, last);
-                        number[stateOf(set, last)] = numberOf(set, last);
-                    }
-                }
-            }
-        }
-
-        private int numberOf(int set, int last) {
-            if (set == world.everything()) {
-                return 1;
-            }
-            int next = nextInLeast(set, last);
-            int sum = 0;
-            for (int x = 0; x < world.things; x++) {
-                if ((next >> x & 1) != 0) {
-                    sum += number[stateOf(set | 1 << x, x)];
-                }
-            }
-            return sum;
+        /** Those that may come next in a least order that comes to a state; behind fillLeast(). */
+        int nextInLeast(int set, int last) {
+            return leastNext[stateOf(set, last)];
         }
 
         int value() {
@@ -1718,10 +1714,12 @@ public final class TiedRow {
         }
 
         int number() {
+            fillLeast();
             return number[0];
         }
 
         void pick(int k, int[] into) {
+            fillLeast();
             int left = k;
             int set = 0;
             int last = 0;
@@ -1744,6 +1742,7 @@ public final class TiedRow {
         }
 
         int indexOf(int[] wanted) {
+            fillLeast();
             int index = 0;
             int set = 0;
             int last = 0;
@@ -1798,6 +1797,7 @@ public final class TiedRow {
         }
 
         private void fillComing() {
+            fillLeast();
             if (coming == null) {
                 coming = new int[SETS * THINGS_MOST];
             }
@@ -1906,6 +1906,7 @@ public final class TiedRow {
         /** The search has found some order. */
         void go(SetSearch among) {
             search = among;
+            search.fillLeast();
             size = 0;
             best = NEVER;
             step(0, 0, 0, 0, 0);
