@@ -422,7 +422,7 @@ public final class TiedRow {
         int value = valueOr(leastsOf(m), NONE);
         theSearch().unpin();
         forget();
-        // An order that has it there is allowed, if there is one: only without it this has to be asked.
+        // If some order has it there, some order is allowed: only otherwise that has to be asked.
         return value == NONE && leastsOf(PLAIN) == null ? found(NOUGHT) : value;
     }
 
@@ -845,6 +845,7 @@ public final class TiedRow {
 
     /** The orders of the least LONG among those that the search has found. */
     private LeastOrders walked() {
+        theSearch().fillLeast();
         theWalk().go(theSearch());
         return theWalk();
     }
@@ -1644,7 +1645,7 @@ public final class TiedRow {
 
         private int nextOf(int set, int last) {
             if (among != null) {
-                return among.nextInLeast(set, last);
+                return among.leastNext[stateOf(set, last)];
             }
             return fitting[set] & following[set == 0 ? THINGS_MOST : last];
         }
@@ -1903,10 +1904,9 @@ public final class TiedRow {
             this.world = world;
         }
 
-        /** The search has found some order. */
+        /** The search has found some order, and its least ones are filled. */
         void go(SetSearch among) {
             search = among;
-            search.fillLeast();
             size = 0;
             best = NEVER;
             step(0, 0, 0, 0, 0);
