@@ -25,8 +25,11 @@ public final class TiedRow {
 
     private final Line[] rows = new Line[ROWS];
     private final Line[] texts = new Line[TEXTS];
-    private final World world = new World();
     private final Reader reader = new Reader();
+    /** The walk makes its search, and the search its world: so no constructor hands out a part of what it makes. */
+    private final LongWalk walk = new LongWalk();
+    private final SetSearch search = walk.search;
+    private final World world = search.world;
     private final int[] findingCounts = new int[SIZE + 1];
     private final int[] current = new int[THINGS_MOST];
     private final int[] trial = new int[THINGS_MOST];
@@ -37,10 +40,6 @@ public final class TiedRow {
     private long lastUpper = 0;
     private long lastLower = 1;
 
-    /** The searchers are made when they are first needed: most of the room is theirs. */
-    private SetSearch search = null;
-    private SetSearch within = null;
-    private LongWalk walk = null;
     /** The measure whose least orders stand in solved (null: none is allowed); NONE if the world has changed. */
     private int solvedMeasure = NONE;
     private LeastOrders solved = null;
@@ -417,10 +416,10 @@ public final class TiedRow {
         if (isSpent(m)) {
             return SPENT;
         }
-        theSearch().pin(a, p);
+        search.pin(a, p);
         forget();
         int value = valueOr(leastsOf(m), NONE);
-        theSearch().unpin();
+        search.unpin();
         forget();
         // If some order has it there, some order is allowed: only otherwise that has to be asked.
         return value == NONE && leastsOf(PLAIN) == null ? found(NOUGHT) : value;
@@ -492,9 +491,9 @@ public final class TiedRow {
             return leasts.value();
         }
         if (m == LONG) {
-            theWalk().compare(l);
-            lastAsked = theWalk().otherNumber;
-            return theWalk().otherLeast;
+            walk.compare(l);
+            lastAsked = walk.otherNumber;
+            return walk.otherLeast;
         }
         LeastOrders among = l == LONG ? walked() : solvedWithin(l);
         lastAsked = among.number();
@@ -502,7 +501,7 @@ public final class TiedRow {
     }
 
     public int must() {
-        int broken = theSearch().leastBroken();
+        int broken = search.leastBroken();
         forget();
         lastAsked = broken & (1 << RULES_MOST) - 1;
         return broken >> RULES_MOST;
@@ -822,41 +821,25 @@ public final class TiedRow {
             return null;
         }
         if (solvedMeasure != m) {
-            boolean some = theSearch().solve(m == LONG ? PLAIN : m, null);
-            solved = !some ? null : m == LONG ? walked() : theSearch();
+            boolean some = search.solve(m == LONG ? PLAIN : m);
+            solved = !some ? null : m == LONG ? walked() : search;
             solvedMeasure = m;
         }
         return solved;
     }
 
-    private SetSearch theSearch() {
-        if (search == null) {
-            search = new SetSearch(world);
-        }
-        return search;
-    }
-
-    private LongWalk theWalk() {
-        if (walk == null) {
-            walk = new LongWalk(world);
-        }
+    /** The orders of the least LONG among those that the search has found. */
+    private LeastOrders walked() {
+        search.fillLeast();
+        walk.go();
         return walk;
     }
 
-    /** The orders of the least LONG among those that the search has found. */
-    private LeastOrders walked() {
-        theSearch().fillLeast();
-        theWalk().go(theSearch());
-        return theWalk();
-    }
-
-    /** The least orders of a measure among those that the search has found. */
+    /** The least orders of a measure among those that the search has found, which are gone then. */
     private LeastOrders solvedWithin(int l) {
-        if (within == null) {
-            within = new SetSearch(world);
-        }
-        within.solve(l, theSearch());
-        return within;
+        search.solveWithin(l);
+        forget();
+        return search;
     }
 
     // ---- swaps and moves
@@ -1533,7 +1516,7 @@ public final class TiedRow {
      * them: what a gap costs, and who may come next, hangs on no more than these.
      */
     private static final class SetSearch extends LeastOrders {
-        private final World world;
+        final World world = new World();
         private final int[] gapCost = new int[SETS];
         private final int[] fitting = new int[SETS];
         private final int[] following = new int[THINGS_MOST + 1];
@@ -1544,31 +1527,38 @@ public final class TiedRow {
         private final int[] best = new int[SETS * THINGS_MOST];
         private final int[] leastNext = new int[SETS * THINGS_MOST];
         private final int[] number = new int[SETS * THINGS_MOST];
-        /** In how many ways least orders come to a state; made when it is first needed. */
-        private int[] coming = null;
+        /** In how many ways least orders come to a state. */
+        private final int[] coming = new int[SETS * THINGS_MOST];
         private final int[] behindCost = new int[THINGS_MOST];
         private final int[] nextCost = new int[(THINGS_MOST + 1) * THINGS_MOST];
-        private SetSearch among = null;
+        private boolean isWithin = false;
         private boolean adds = false;
         private boolean isFilled = false;
         private int pinnedThing = NONE;
         private int pinnedPlace = NONE;
 
-        SetSearch(World world) {
-            this.world = world;
+        /** Among all orders that are allowed; false: there is none. */
+        boolean solve(int m) {
+            isWithin = false;
+            fillFitting();
+            fillBest(m);
+            return best[0] < NEVER;
         }
 
-        /** Among the least orders of another search, or among all that are allowed; false: there is none. */
-        boolean solve(int m, SetSearch others) {
-            among = others;
+        /**
+         * Among the least orders that were found last. A state asks for its own leastNext alone, and that ahead of
+         * writing it anew: so the same rows hold both, first what was least and then what is.
+         */
+        void solveWithin(int m) {
+            fillLeast();
+            isWithin = true;
+            fillBest(m);
+        }
+
+        private void fillBest(int m) {
             adds = m == SUM || m == PROFILE;
             isFilled = false;
             fillGapCosts(m);
-            if (others == null) {
-                fillFitting();
-            } else {
-                others.fillLeast();
-            }
             for (int set = world.everything(); set >= 0; set--) {
                 for (int last = 0; last < lastsOf(set); last++) {
                     if (isState(set, last)) {
@@ -1576,7 +1566,6 @@ public final class TiedRow {
                     }
                 }
             }
-            return best[0] < NEVER;
         }
 
         private static int stateOf(int set, int last) {
@@ -1644,8 +1633,8 @@ public final class TiedRow {
         }
 
         private int nextOf(int set, int last) {
-            if (among != null) {
-                return among.leastNext[stateOf(set, last)];
+            if (isWithin) {
+                return leastNext[stateOf(set, last)];
             }
             return fitting[set] & following[set == 0 ? THINGS_MOST : last];
         }
@@ -1799,9 +1788,6 @@ public final class TiedRow {
 
         private void fillComing() {
             fillLeast();
-            if (coming == null) {
-                coming = new int[SETS * THINGS_MOST];
-            }
             Arrays.fill(coming, 0, stateOf(world.everything() + 1, 0), 0);
             coming[0] = 1;
             for (int set = 0; set < world.everything(); set++) {
@@ -1889,8 +1875,8 @@ public final class TiedRow {
      */
     private static final class LongWalk extends LeastOrders {
         private static final int BITS = 3;
-        private final World world;
-        private SetSearch search = null;
+        final SetSearch search = new SetSearch();
+        private final World world = search.world;
         /** Each order is one int, the first thing highest: so they rise. */
         private final int[] orders = new int[WALK_ORDERS];
         private int size = 0;
@@ -1900,13 +1886,8 @@ public final class TiedRow {
         private final int[] seats = new int[THINGS_MOST];
         private final int[] unpacked = new int[THINGS_MOST];
 
-        LongWalk(World world) {
-            this.world = world;
-        }
-
         /** The search has found some order, and its least ones are filled. */
-        void go(SetSearch among) {
-            search = among;
+        void go() {
             size = 0;
             best = NEVER;
             step(0, 0, 0, 0, 0);

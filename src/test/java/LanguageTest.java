@@ -29,6 +29,7 @@ public final class LanguageTest {
         words(bare);
         library(bare);
         methodLengths(bare);
+        madeInConstructors(bare);
         for (Class<?> type : classes()) {
             members(type);
         }
@@ -169,5 +170,29 @@ public final class LanguageTest {
             }
         }
         CHECK.holds("methods are seen", seen > 100);
+    }
+
+    /** What is made is made by a field's first value or in a constructor: a call makes nothing (rule 12). */
+    private static void madeInConstructors(String bare) {
+        Pattern field = Pattern.compile("^ {4,8}(?:private )?final \\w+(?:\\[\\])* \\w+ = new .*;$");
+        Pattern constructor = Pattern.compile("^( {4}| {8})(?:public |private )?[A-Z]\\w*\\([^()]*\\) \\{$");
+        String end = "";
+        int seen = 0;
+        for (String line : bare.split("\n")) {
+            Matcher found = constructor.matcher(line);
+            if (found.matches()) {
+                end = found.group(1) + "}";
+            } else if (line.equals(end)) {
+                end = "";
+            }
+            if (Pattern.compile("\\bnew\\b").matcher(line).find()) {
+                seen++;
+                CHECK.holds("made in a constructor: " + line.trim(), !end.isEmpty() || field.matcher(line).matches());
+            }
+            for (String maker : new String[] {"copyOf", "copyOfRange", "clone", "StringBuilder", "String", "ArrayList", "List"}) {
+                CHECK.holds("no " + maker + ": " + line.trim(), !Pattern.compile("\\b" + maker + "\\b").matcher(line).find());
+            }
+        }
+        CHECK.holds("what is made is seen", seen > 20);
     }
 }
