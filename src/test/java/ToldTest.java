@@ -1,226 +1,374 @@
+import java.math.BigInteger;
+import java.util.function.IntSupplier;
+
 /** Promises 44 to 50: what is told, counts, findings, the digest. */
 public final class ToldTest {
-    private static final int LOW = Integer.MIN_VALUE, HIGH = Integer.MAX_VALUE;
+    private static final int LOW = Check.LOW, HIGH = Check.HIGH, BAD = TiedRow.BAD;
+    private static final int NOTHING = Check.NOTHING, BEYOND = Check.BEYOND, UNLIKE = Check.UNLIKE, NOUGHT = Check.NOUGHT,
+        SIZE = Check.SIZE;
     private static final Check CHECK = new Check("ToldTest");
 
     public static void main(String[] args) {
         asked();
-        askedStays();
-        fractions();
+        askedByOthers();
+        askedByRefused();
+        askedBefore();
+        upper();
+        lower();
         count();
+        countRefused();
+        finding();
         findings();
+        findingsRefused();
         digest();
-        digestOfAll();
-        constants();
+        digestOfRows();
+        digestOfWorlds();
+        digestLeavesAsked();
         CHECK.end();
     }
 
+    // ---- 44 asked
+
     private static void asked() {
-        TiedRow x = new TiedRow();
-        CHECK.due("before", x.asked(), 0);
-        x.row(0, 2);
-        x.lay(0, 0, 8);
-        x.lay(0, 0, 5);
-        CHECK.due("lay", x.asked(), 8);
-        x.at(0, 0);
+        CHECK.says(44, "What the latest lay(), at(), mean(), told(), gap(), leads(), both(), must(), swaps(), moves(), lots() "
+            + "that was not refused told;");
+        TiedRow x = Check.rich("n3 AB2 BC1 A<B");
+        CHECK.due("at", x.asked(), Check.RICH_ASKED);
+        x.lay(4, 59, 5);
+        CHECK.due("lay", x.asked(), Check.RICH_ASKED);
+        x.at(4, 59);
         CHECK.due("at", x.asked(), 5);
-        x.mean(0);
-        CHECK.due("mean", x.asked(), 2);
-        TiedRow y = Check.worldOf("n3AB2BC1A<B");
-        y.told(0, 2);
-        CHECK.due("told", y.asked(), 1);
-        Check.layOrder(y, 0, "ACB");
-        y.gap(0, 1);
-        CHECK.due("gap", y.asked(), 2);
-        y.leads(0, 0, 2);
-        CHECK.due("leads", y.asked(), 1);
-        y.off(0, 1);
-        y.both(2, 3);
-        CHECK.due("both", y.asked(), 4);
-        y.must();
-        CHECK.due("must", y.asked(), 0);
-        y.swaps(0, 0);
-        CHECK.due("swaps", y.asked(), 3);
-        Check.layOrder(y, 0, "ACB");
-        y.moves(1, 0);
-        CHECK.due("moves", y.asked(), 2);
-        y.lots(0, 1, 1);
-        CHECK.due("lots", y.asked(), 4);
+        Check.layRow(x, 4, HIGH, 8);
+        x.mean(4);
+        CHECK.due("mean", x.asked(), 1073741827);
+        x.told(0, 2);
+        CHECK.due("told", x.asked(), 1);
+        Check.layOrder(x, 1, "ACB");
+        x.gap(1, 1);
+        CHECK.due("gap", x.asked(), 2);
+        x.leads(0, 0, 2);
+        CHECK.due("leads", x.asked(), 1);
+        x.off(0, 1);
+        x.both(2, 3);
+        CHECK.due("both", x.asked(), 4);
+        x.must();
+        CHECK.due("must", x.asked(), 0);
+        x.swaps(0, 1);
+        CHECK.due("swaps", x.asked(), 3);
+        Check.layOrder(x, 1, "ACB");
+        x.moves(1, 1);
+        CHECK.due("moves", x.asked(), 2);
+        x.lots(0, 1, 1);
+        CHECK.due("lots", x.asked(), 4);
+        CHECK.due("again and again", x.asked(), 4);
     }
 
-    /** Calls that tell nothing by asked() leave it, refused ones too. */
-    private static void askedStays() {
-        TiedRow x = Check.worldOf("n3AB2BC1A<B");
-        x.row(0, 3);
-        x.lay(0, 1, 77);
-        x.at(0, 1);
-        x.at(0, 9);
-        x.at(6, 0);
-        x.told(1, 0);
-        x.gap(0, 0);
-        x.swaps(0, 0);
-        x.leads(0, 1, 1);
-        x.both(5, 0);
-        x.lots(0, 0, 1);
-        x.mean(5);
-        CHECK.due("behind refused ones", x.asked(), 77);
-        x.text(0, 3);
-        x.put(0, 0, 65);
-        x.fault(0);
-        x.world(0);
-        x.tie(0, 1, 3);
-        x.rule(0, 0, 0, 0);
-        x.off(1, 1);
-        x.back(1);
-        x.mark(0, 1);
-        x.draw(1, 1);
-        x.measure(0, 1);
-        x.breaks(1);
-        x.least(0);
-        x.first(0, 2);
-        x.ways(0);
-        x.rank(0, 2);
-        x.order(0, 0, 2);
-        x.all();
-        x.bound(0);
-        x.costs(0, 0, 1);
-        x.bars(0, 0);
-        x.where(0, 0, 0);
-        x.places(0, 0);
-        x.middle(0, 0);
-        x.apart(1, 2);
-        x.average();
-        x.image(3);
-        x.on(3);
-        x.copy(1, 0, 2, 0, 1);
-        x.tear(3);
-        x.count(1);
-        x.finding();
-        x.findings(1);
-        x.digest();
-        CHECK.due("behind those that tell nothing so", x.asked(), 77);
+    /** Calls that tell nothing by asked() leave it as it is. */
+    private static void askedByOthers() {
+        CHECK.says(44, "What the latest lay(), at(), mean(), told(), gap(), leads(), both(), must(), swaps(), moves(), lots()");
+        TiedRow x = Check.rich("n3 AB2 BC1 A<B");
+        IntSupplier[] calls = {
+            () -> x.row(2, 3), () -> x.tear(2), () -> x.copy(0, 0, 1, 0, 3), () -> x.text(0, 3), () -> x.put(0, 0, 65),
+            () -> x.fault(3), () -> x.world(3), () -> x.tie(0, 1, 3), () -> x.rule(0, 0, 0, 0), () -> x.off(1, 1), () -> x.back(1),
+            () -> x.mark(0, 1), () -> x.draw(1, 1), () -> x.measure(0, 1), () -> x.breaks(1), () -> x.least(0),
+            () -> x.first(0, 2), () -> x.ways(0), () -> x.rank(0, 2), () -> x.order(0, 0, 2), x::all, () -> x.bound(0),
+            () -> x.costs(0, 0, 1), () -> x.bars(0, 0), () -> x.where(0, 0, 0), () -> x.places(0, 0), () -> x.middle(0, 0),
+            () -> x.apart(1, 2), x::average, () -> x.image(3), () -> x.on(3), () -> x.count(1), x::finding, () -> x.findings(1),
+            () -> (int) x.upper(), () -> (int) x.lower(), () -> (int) x.digest(), x::asked,
+        };
+        for (int i = 0; i < calls.length; i++) {
+            int answer = calls[i].getAsInt();
+            boolean taken = answer >= 0 || i >= calls.length - 4 || answer == TiedRow.NONE;
+            CHECK.holds("call " + i + " is taken, it answered " + answer, taken);
+            CHECK.due("behind call " + i, x.asked(), Check.RICH_ASKED);
+        }
     }
 
-    private static void fractions() {
+    private static void askedByRefused() {
+        CHECK.says(44, "that was not refused told;");
+        TiedRow x = Check.rich("n3 AB2 BC1 A<B B<A");
+        CHECK.finds("lay", x, BEYOND, () -> x.lay(4, 60, 1));
+        CHECK.refuses("lay", x, BAD, () -> x.lay(6, 0, 1));
+        CHECK.finds("at", x, NOTHING, () -> x.at(5, 0));
+        CHECK.finds("mean", x, NOTHING, () -> x.mean(5));
+        CHECK.refuses("told", x, BAD, () -> x.told(2, 0));
+        CHECK.finds("gap", x, BEYOND, () -> x.gap(0, 2));
+        CHECK.finds("leads", x, NOUGHT, () -> x.leads(0, 0, 1));
+        CHECK.finds("both", x, NOUGHT, () -> x.both(0, 1));
+        CHECK.finds("swaps", x, UNLIKE, () -> x.swaps(0, 0));
+        CHECK.finds("moves", x, UNLIKE, () -> x.moves(0, 0));
+        CHECK.refuses("lots", x, BAD, () -> x.lots(0, 0, 1));
+        CHECK.due("it stays", x.asked(), Check.RICH_ASKED);
+    }
+
+    private static void askedBefore() {
+        CHECK.says(44, "0 before.");
         TiedRow x = new TiedRow();
-        CHECK.due("upper before", x.upper(), 0);
-        CHECK.due("lower before", x.lower(), 1);
-        Check.write(x, 0, "n4AB1A@2");
+        CHECK.due("a new one", x.asked(), 0);
+        x.row(0, 3);
+        x.at(0, 3);
+        x.draw(5, 1);
+        CHECK.due("before any told", x.asked(), 0);
+    }
+
+    // ---- 45 upper, 46 lower
+
+    private static void told(String what, TiedRow x, long upper, long lower) {
+        CHECK.due(what + ": upper", x.upper(), upper);
+        CHECK.due(what + ": lower", x.lower(), lower);
+    }
+
+    private static void upper() {
+        CHECK.says(45, "The upper number of the fraction that was told last; 0 before.");
+        TiedRow x = new TiedRow();
+        CHECK.due("before", x.upper(), 0);
+        x.average();
+        CHECK.due("behind a refused one", x.upper(), 0);
+        Check.write(x, 0, "n4 AB1 A@2");
         x.world(0);
+        CHECK.due("before, with a world", x.upper(), 0);
         x.average();
-        CHECK.due("upper", x.upper(), 5);
-        CHECK.due("lower", x.lower(), 3);
-        x.average();
-        x.middle(0, 9);
-        x.middle(9, 0);
-        CHECK.due("upper stays", x.upper(), 5);
-        CHECK.due("lower stays", x.lower(), 3);
+        told("average", x, 5, 3);
         // A is at 2, B at 1 in two orders and at 3 in two.
         x.middle(0, 1);
-        CHECK.due("upper of B", x.upper(), 2);
-        CHECK.due("lower of B", x.lower(), 1);
-        // C is at 0 1 0 3 by B at 3 3 1 1.
-        x.middle(0, 2);
-        CHECK.due("upper of C", x.upper(), 1);
-        CHECK.due("lower of C", x.lower(), 1);
+        told("middle of B", x, 2, 1);
+        x.average();
+        told("average again", x, 5, 3);
         x.rule(1, 2, 3, 0);
         x.middle(0, 2);
-        CHECK.due("upper of C ahead of D", x.upper(), 0);
-        CHECK.due("lower of C ahead of D", x.lower(), 1);
+        told("C is ahead of D, at 0", x, 0, 1);
         x.middle(0, 3);
-        CHECK.due("upper of D", x.upper(), 2);
-        CHECK.due("lower of D", x.lower(), 1);
+        told("D is at 1 or 3", x, 2, 1);
     }
 
-    private static void counts(TiedRow x, int... want) {
-        for (int what = 0; what < 7; what++) {
-            CHECK.due("count " + what, x.count(what), want[what]);
+    private static void lower() {
+        CHECK.says(46, "Its lower number; 1 before.");
+        TiedRow x = new TiedRow();
+        CHECK.due("before", x.lower(), 1);
+        x.average();
+        CHECK.due("behind a refused one", x.lower(), 1);
+        TiedRow y = Check.rich("n4 AB1");
+        told("average", y, 5, 3);
+        CHECK.refuses("no measure", y, BAD, () -> y.middle(5, 0));
+        CHECK.refuses("no thing", y, BAD, () -> y.middle(0, 4));
+        y.rule(3, 0, 4, 0);
+        CHECK.finds("none is allowed", y, NOUGHT, () -> y.middle(0, 0));
+        told("behind refused ones", y, 5, 3);
+        y.tie(0, 1, 9);
+        y.least(0);
+        y.world(3);
+        told("behind those that tell none", y, 5, 3);
+    }
+
+    // ---- 47 count
+
+    private static void counts(String what, TiedRow x, int... want) {
+        for (int i = 0; i < 7; i++) {
+            int kind = i;
+            CHECK.answers(what + ": count(" + i + ")", x, want[i], () -> x.count(kind));
         }
     }
 
     private static void count() {
-        TiedRow x = Check.worldOf("n5AB2BA0BC1DE9A<BC+DA!BE?ABC@1");
-        counts(x, 5, 2, 5, 2, 0, 0, 1);
+        CHECK.says(47, "0 THINGS, 1 TIES, 2 RULES, 3 AHEAD ones (RIGHT, too), 4 OFF ones, 5 ROWS, 6 TEXTS that are there.");
+        counts("new", new TiedRow(), 0, 0, 0, 0, 0, 0, 0);
+        TiedRow x = Check.worldOf("n5 AB2 BA0 BC1 DE9 A<B C+D A!B E?AB C@1 D^1");
+        counts("a world", x, 5, 2, 6, 2, 0, 0, 1);
         x.off(1, 1);
         x.off(4, 1);
         x.rule(0, 0, 0, 0);
         x.row(0, 0);
         x.row(5, 60);
         x.text(0, 0);
-        counts(x, 5, 2, 6, 2, 2, 2, 2);
+        counts("two being off", x, 5, 2, 7, 2, 2, 2, 2);
         x.tear(0);
         x.back(1);
         x.tie(0, 4, 1);
-        counts(x, 5, 3, 1, 1, 0, 1, 2);
-        for (int what : new int[] {-1, 7, LOW, HIGH}) {
-            CHECK.refuses("count " + what, x, TiedRow.BAD, () -> x.count(what));
+        counts("some gone", x, 5, 3, 1, 1, 0, 1, 2);
+        TiedRow full = Check.worldOf("n10 A<BA+BA<BA+BA<BA+BA<BA+B");
+        for (int a = 0; a < 10; a++) {
+            for (int b = a + 1; b < 10; b++) {
+                full.tie(a, b, 1);
+            }
+        }
+        for (int i = 0; i < 8; i++) {
+            full.off(i, 1);
+            full.row(i % 6, i);
+            full.text(i % 4, i);
+        }
+        counts("as many as may be", full, 10, 45, 8, 8, 8, 6, 4);
+    }
+
+    private static void countRefused() {
+        CHECK.says(47, "BAD.");
+        TiedRow x = Check.rich("n3 AB2 BC1 A<B");
+        for (int what : Check.outside(0, 6)) {
+            CHECK.refuses("count(" + what + ")", x, BAD, () -> x.count(what));
+        }
+    }
+
+    // ---- 48 finding, 49 findings
+
+    /** Calls that are findings 1 to 5, one by one, on an object with row 1 empty and rule 0 a note. */
+    private static IntSupplier[] foundOn(TiedRow x) {
+        x.row(1, 0);
+        x.rule(0, 0, 0, 0);
+        return new IntSupplier[] {() -> x.tear(0), () -> x.at(1, 0), () -> x.mark(0, 1), () -> x.mean(1), () -> x.row(0, -1)};
+    }
+
+    private static void finding() {
+        CHECK.says(48, "The latest FINDING (0 before any).");
+        TiedRow x = new TiedRow();
+        CHECK.due("a new one", x.finding(), 0);
+        x.row(6, 0);
+        x.least(5);
+        CHECK.due("before any, though refused", x.finding(), 0);
+        IntSupplier[] calls = foundOn(x);
+        for (int round = 0; round < 2; round++) {
+            for (int f = 5; f >= 1; f--) {
+                CHECK.due("a finding", calls[f - 1].getAsInt(), TiedRow.FINDING);
+                CHECK.due("the latest", x.finding(), f);
+                x.row(6, 0);
+                x.row(2, 1);
+                x.all();
+                CHECK.due("the latest still", x.finding(), f);
+            }
         }
     }
 
     private static void findings() {
+        CHECK.says(49, "How often a FINDING (1 .. 5) was answered.");
         TiedRow x = new TiedRow();
-        CHECK.due("no finding", x.finding(), 0);
         for (int f = 1; f <= 5; f++) {
             CHECK.due("none of " + f, x.findings(f), 0);
         }
-        x.row(1, 0);
-        x.rule(0, 0, 0, 0);
-        for (int round = 1; round <= 3; round++) {
-            int[] calls = {x.tear(0), x.at(1, 0), x.mark(0, 1), x.mean(1), x.row(0, -1)};
-            int[] due = {1, 2, 3, 4, 5};
-            for (int i = 0; i < 5; i++) {
-                CHECK.due("a finding", calls[i], TiedRow.FINDING);
-                CHECK.due("how often " + due[i], x.findings(due[i]), round);
+        IntSupplier[] calls = foundOn(x);
+        int[] times = {1, 3, 0, 2, 5};
+        for (int f = 1; f <= 5; f++) {
+            for (int i = 0; i < times[f - 1]; i++) {
+                CHECK.due("a finding", calls[f - 1].getAsInt(), TiedRow.FINDING);
             }
-            CHECK.due("the latest", x.finding(), 5);
         }
-        x.row(9, 0);
-        x.row(0, 1);
-        x.finding();
-        CHECK.due("the latest still", x.finding(), 5);
-        for (int f : new int[] {0, 6, -1, LOW, HIGH}) {
-            CHECK.refuses("findings " + f, x, TiedRow.BAD, () -> x.findings(f));
+        x.row(6, 0);
+        x.findings(0);
+        for (int f = 1; f <= 5; f++) {
+            CHECK.due("how often " + f, x.findings(f), times[f - 1]);
         }
     }
 
-    private static long digestBy(long... values) {
-        long h = 17;
-        for (long v : values) {
-            h = 31 * h + v;
+    private static void findingsRefused() {
+        CHECK.says(49, "BAD.");
+        TiedRow x = Check.rich("n3 AB2 BC1 A<B");
+        for (int f : Check.outside(1, 5)) {
+            CHECK.refuses("findings(" + f + ")", x, BAD, () -> x.findings(f));
         }
-        return h;
     }
+
+    // ---- 50 digest
+
+    /** By great numbers, cut to a long at the end alone. */
+    private static long digestBy(int... values) {
+        BigInteger h = BigInteger.valueOf(17);
+        for (int v : values) {
+            h = h.multiply(BigInteger.valueOf(31)).add(BigInteger.valueOf(v));
+        }
+        return h.longValue();
+    }
+
+    private static int[] joined(int[]... parts) {
+        int size = 0;
+        for (int[] part : parts) {
+            size += part.length;
+        }
+        int[] out = new int[size];
+        int at = 0;
+        for (int[] part : parts) {
+            System.arraycopy(part, 0, out, at, part.length);
+            at += part.length;
+        }
+        return out;
+    }
+
+    private static final int[] ALL_MISSING = {-1, -1, -1, -1, -1, -1, -1, -1, -1, -1};
 
     private static void digest() {
+        CHECK.says(50, "h = 17; then h = 31 h + v for each v");
+        CHECK.due("a new one", new TiedRow().digest(), digestBy(joined(new int[7], ALL_MISSING)));
+        // Sixty ints in each row, 120 bytes in each text: as much as may be, the number wrapping around.
         TiedRow x = new TiedRow();
-        CHECK.due("of a new one", x.digest(), digestBy(0, 0, 0, 0, 0, 0, 0, -1, -1, -1, -1, -1, -1, -1, -1, -1, -1));
-        x.row(4, 2);
-        x.lay(4, 0, -5);
-        x.lay(4, 1, HIGH);
+        int[] values = {0, 0, 0, 0, 0, 6, 4};
+        for (int r = 0; r < 6; r++) {
+            x.row(r, 60);
+            int[] ints = new int[61];
+            ints[0] = 60;
+            for (int i = 0; i < 60; i++) {
+                ints[i + 1] = i % 3 == 0 ? LOW + i : HIGH - i * r;
+                x.lay(r, i, ints[i + 1]);
+            }
+            values = joined(values, ints);
+        }
+        for (int t = 0; t < 4; t++) {
+            x.text(t, 120);
+            int[] bytes = new int[121];
+            bytes[0] = 120;
+            for (int i = 0; i < 120; i++) {
+                bytes[i + 1] = (i + t) % 2 == 0 ? -128 + i : 127 - i;
+                x.put(t, i, bytes[i + 1]);
+            }
+            values = joined(values, bytes);
+        }
+        CHECK.due("as much as may be", x.digest(), digestBy(values));
+        CHECK.due("it stays", x.digest(), digestBy(values));
+    }
+
+    private static void digestOfRows() {
+        CHECK.says(50, "of each ROW its size (-1: missing) and places, of each TEXT likewise.");
+        TiedRow x = new TiedRow();
+        Check.layRow(x, 4, -5, HIGH);
         x.text(1, 1);
         x.put(1, 0, 200);
         x.row(0, 0);
-        x.at(4, 1);
-        CHECK.due("of rows and texts", x.digest(),
-            digestBy(0, 0, 0, 0, 0, 2, 1, 0, -1, -1, -1, 2, -5, HIGH, -1, -1, 1, -56, -1, -1));
-        CHECK.due("asked() stays", x.asked(), HIGH);
-        CHECK.due("it stays", x.digest(), x.digest());
+        CHECK.due("some", x.digest(), digestBy(0, 0, 0, 0, 0, 2, 1, 0, -1, -1, -1, 2, -5, HIGH, -1, -1, 1, -56, -1, -1));
+        x.text(3, 2);
+        x.tear(0);
+        CHECK.due("one is missing again", x.digest(),
+            digestBy(0, 0, 0, 0, 0, 1, 2, -1, -1, -1, -1, 2, -5, HIGH, -1, -1, 1, -56, -1, 2, 32, 32));
+        x.tear(4);
+        x.text(1, 0);
+        x.text(3, 0);
+        CHECK.due("empty texts", x.digest(), digestBy(0, 0, 0, 0, 0, 0, 2, -1, -1, -1, -1, -1, -1, -1, 0, -1, 0));
+        Check.layRow(x, 5, LOW);
+        CHECK.due("the last row", x.digest(), digestBy(0, 0, 0, 0, 0, 1, 2, -1, -1, -1, -1, -1, 1, LOW, -1, 0, -1, 0));
     }
 
-    private static void digestOfAll() {
-        TiedRow x = Check.worldOf("n3BC7A+BC?AB");
+    private static void digestOfWorlds() {
+        CHECK.says(50, "count() 0 to 6; WEIGHTS as image() has them; of each RULE told() 0 to 4;");
+        TiedRow x = Check.worldOf("n3 BC7 A+B C?AB");
         x.off(1, 1);
         x.text(3, 0);
-        CHECK.due("of a world", x.digest(), digestBy(3, 1, 2, 1, 1, 0, 1, 0, 0, 7,
-            2, 0, 1, 0, 0, 6, 2, 0, 1, 1, -1, -1, -1, -1, -1, -1, -1, -1, -1, 0));
+        int[] texts = {-1, -1, -1, -1, -1, -1, -1, -1, -1, 0};
+        CHECK.due("a world", x.digest(), digestBy(joined(new int[] {3, 1, 2, 1, 1, 0, 1, 0, 0, 7, 2, 0, 1, 0, 0, 6, 2, 0, 1, 1}, texts)));
+        x.off(1, 0);
+        x.tie(0, 1, 4);
+        CHECK.due("changed", x.digest(), digestBy(joined(new int[] {3, 2, 2, 1, 0, 0, 1, 4, 0, 7, 2, 0, 1, 0, 0, 6, 2, 0, 1, 0}, texts)));
+        x.back(0);
+        CHECK.due("without rules", x.digest(), digestBy(joined(new int[] {3, 2, 0, 0, 0, 0, 1, 4, 0, 7}, texts)));
+        TiedRow one = Check.worldOf("n1 A^9");
+        one.text(3, 0);
+        CHECK.due("of one thing", one.digest(), digestBy(joined(new int[] {1, 0, 1, 0, 0, 0, 1, 4, 0, 9, 0, 0}, texts)));
     }
 
-    private static void constants() {
-        CHECK.due("BAD", TiedRow.BAD, -1);
-        CHECK.due("FULL", TiedRow.FULL, -2);
-        CHECK.due("FINDING", TiedRow.FINDING, -3);
-        CHECK.due("STATE", TiedRow.STATE, -4);
-        CHECK.due("SPENT", TiedRow.SPENT, -6);
-        CHECK.due("NONE", TiedRow.NONE, -9);
+    private static void digestLeavesAsked() {
+        CHECK.says(50, "(of a call that tells by asked(): what it tells, not the 1 that it answers; asked() stays):");
+        TiedRow x = Check.rich("n3 AB2 BC1 A<B");
+        long digest = x.digest();
+        CHECK.due("asked() stays", x.asked(), Check.RICH_ASKED);
+        CHECK.due("finding() stays", x.finding(), BEYOND);
+        CHECK.due("the same again", x.digest(), digest);
+        TiedRow rule = Check.worldOf("n3 C<B");
+        rule.text(3, 0);
+        int[] texts = {-1, -1, -1, -1, -1, -1, -1, -1, -1, 0};
+        CHECK.due("what told() tells", rule.digest(), digestBy(joined(new int[] {3, 0, 1, 1, 0, 0, 1, 0, 0, 0, 1, 2, 1, 0, 0}, texts)));
+        CHECK.due("asked() stays 0", rule.asked(), 0);
     }
 }
