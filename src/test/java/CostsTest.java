@@ -143,7 +143,7 @@ public final class CostsTest {
         TiedRow x = Check.rich(NONE_ALLOWED + " A!C");
         x.off(2, 1);
         CHECK.finds("one that is off, none being allowed", x, NOUGHT, () -> x.bars(SUM, 2));
-        TiedRow none = Check.rich("");
+        TiedRow none = new TiedRow();
         CHECK.refuses("without rules", none, BAD, () -> none.bars(SUM, 0));
     }
 

@@ -57,7 +57,7 @@ public final class LeastTest {
         x.off(1, 1);
         x.off(2, 1);
         leasts(x, "with all rules off", 3, 2, 1, 2, 1);
-        // Each kind of rule, the things that it names being the last ones: A to C are tied, F to H are told where.
+        // Each kind of rule, by the last things, F to H, which are tied: without it LONG is 1 and SUM is 2.
         String tied = "n8 FG1 GH1 ";
         String[] rules = {"H<F", "H+F", "G@7", "G^0", "F!G", "F?GH"};
         int[] longs = {1, 2, 2, 2, 2, 2};

@@ -31,20 +31,25 @@ public final class LotsTest {
         CHECK.end();
     }
 
-    private static void swapped(TiedRow x, int m, String from, int done, int value, String to) {
+    /** swaps() or moves(). */
+    private interface Improving {
+        int on(TiedRow x, int m, int r);
+    }
+
+    private static void improved(Improving way, TiedRow x, int m, String from, int done, int value, String to) {
         Check.layOrder(x, 0, from);
-        CHECK.due("swaps " + m + " of " + from, x.swaps(m, 0), done);
+        CHECK.due("measure " + m + " of " + from + " is made better", way.on(x, m, 0), done);
         CHECK.due("the measure then", x.asked(), value);
         CHECK.due("measure()", x.measure(m, 0), value);
-        CHECK.showsOrder("swaps " + m + " of " + from, x, 0, to);
+        CHECK.showsOrder("measure " + m + " of " + from, x, 0, to);
+    }
+
+    private static void swapped(TiedRow x, int m, String from, int done, int value, String to) {
+        improved(TiedRow::swaps, x, m, from, done, value, to);
     }
 
     private static void moved(TiedRow x, int m, String from, int done, int value, String to) {
-        Check.layOrder(x, 0, from);
-        CHECK.due("moves " + m + " of " + from, x.moves(m, 0), done);
-        CHECK.due("the measure then", x.asked(), value);
-        CHECK.due("measure()", x.measure(m, 0), value);
-        CHECK.showsOrder("moves " + m + " of " + from, x, 0, to);
+        improved(TiedRow::moves, x, m, from, done, value, to);
     }
 
     // ---- the terms
@@ -164,38 +169,30 @@ public final class LotsTest {
 
     private static void improvingRefused() {
         CHECK.says(36, "BAD; NOTHING; SIZE; UNLIKE: no ORDER, or none that is ALLOWED.");
+        refused(TiedRow::swaps);
+        CHECK.says(37, "BAD; NOTHING; SIZE; UNLIKE.");
+        refused(TiedRow::moves);
+    }
+
+    private static void refused(Improving way) {
         TiedRow x = Check.rich(WORLD);
         for (int m : NO_MEASURES) {
             for (int r : new int[] {0, 1, 2, 3, 5}) {
-                CHECK.refuses("swaps(" + m + ", " + r + ")", x, BAD, () -> x.swaps(m, r));
+                CHECK.refuses("measure " + m + " of row " + r, x, BAD, () -> way.on(x, m, r));
             }
         }
         for (int r : NO_ROWS) {
-            CHECK.refuses("swaps(0, " + r + ")", x, BAD, () -> x.swaps(SUM, r));
+            CHECK.refuses("of row " + r, x, BAD, () -> way.on(x, SUM, r));
         }
         for (int m = 0; m < 5; m++) {
             int measure = m;
-            CHECK.finds("of a missing one", x, NOTHING, () -> x.swaps(measure, 5));
-            CHECK.finds("of four", x, SIZE, () -> x.swaps(measure, 2));
-            CHECK.finds("of no order", x, UNLIKE, () -> x.swaps(measure, 3));
-            CHECK.finds("of one that is not allowed", x, UNLIKE, () -> x.swaps(measure, 1));
+            CHECK.finds("of a missing one", x, NOTHING, () -> way.on(x, measure, 5));
+            CHECK.finds("of four", x, SIZE, () -> way.on(x, measure, 2));
+            CHECK.finds("of no order", x, UNLIKE, () -> way.on(x, measure, 3));
+            CHECK.finds("of one that is not allowed", x, UNLIKE, () -> way.on(x, measure, 1));
         }
-        CHECK.says(37, "BAD; NOTHING; SIZE; UNLIKE.");
-        for (int m : NO_MEASURES) {
-            for (int r : new int[] {0, 1, 2, 3, 5}) {
-                CHECK.refuses("moves(" + m + ", " + r + ")", x, BAD, () -> x.moves(m, r));
-            }
-        }
-        for (int r : NO_ROWS) {
-            CHECK.refuses("moves(0, " + r + ")", x, BAD, () -> x.moves(SUM, r));
-        }
-        for (int m = 0; m < 5; m++) {
-            int measure = m;
-            CHECK.finds("of a missing one", x, NOTHING, () -> x.moves(measure, 5));
-            CHECK.finds("of four", x, SIZE, () -> x.moves(measure, 2));
-            CHECK.finds("of no order", x, UNLIKE, () -> x.moves(measure, 3));
-            CHECK.finds("of one that is not allowed", x, UNLIKE, () -> x.moves(measure, 1));
-        }
+        Check.layRow(x, 2, 9, 9);
+        CHECK.finds("of two that are none", x, SIZE, () -> way.on(x, SUM, 2));
     }
 
     // ---- 38 apart
@@ -504,10 +501,13 @@ public final class LotsTest {
             Check.layRow(x, 0, image);
             CHECK.finds("on of " + java.util.Arrays.toString(image), x, UNLIKE, () -> x.on(0));
         }
-        TiedRow none = Check.rich("");
+        TiedRow none = new TiedRow();
+        TiedRow notes = Check.rich("");
         for (int bits : new int[] {1, -1, HIGH, LOW}) {
             Check.layRow(none, 4, bits);
             CHECK.finds("bits of no rule", none, UNLIKE, () -> none.on(4));
+            Check.layRow(notes, 4, bits == 1 ? 4 : bits);
+            CHECK.finds("bits of two notes", notes, UNLIKE, () -> notes.on(4));
         }
         TiedRow eight = Check.rich("n1 A@0A@0A@0A@0A@0A@0A@0A@0");
         Check.layRow(eight, 4, 256);

@@ -307,6 +307,7 @@ public final class MeasuresTest {
             star.append('J').append((char) ('A' + ties)).append(9);
         }
         bounded("", LONG, 0);
+        bounded("n4 AB9 AC3 AD5", LONG, 2);
         bounded("n6 AB1 CD1 EF1", LONG, 1);
         bounded("n6 AB0 CD1 DE1 DF1", LONG, 2);
         CHECK.says(0, "the most WEIGHT of a THING by 2 (cut up) CUT;");

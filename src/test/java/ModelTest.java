@@ -1,7 +1,4 @@
-import java.lang.reflect.InvocationTargetException;
-import java.lang.reflect.Method;
 import java.util.ArrayList;
-import java.util.Arrays;
 import java.util.List;
 import java.util.Random;
 
@@ -21,19 +18,14 @@ public final class ModelTest {
     private static final String SIGNS = "nAABBCDEFGHIJKa0123456789  <+@^!?=\u007f";
 
     private final Random lots;
-    private final Check check;
-    private final TiedRow program = new TiedRow();
-    private final Model model = new Model();
-    private final List<String> done = new ArrayList<>();
+    private final Pair pair;
+    private final Model model;
     private final int things;
-    private final int run;
-    /** Behind the first answer that is unlike, the rest of a run tells nothing. */
-    private boolean alike = true;
 
     private ModelTest(int run, int things, Check check) {
-        this.run = run;
         this.things = things;
-        this.check = check;
+        this.pair = new Pair("run " + run, check);
+        this.model = pair.model;
         this.lots = new Random(7919L * run + things);
     }
 
@@ -54,14 +46,14 @@ public final class ModelTest {
 
     private void go(int calls) {
         if (things > 0) {
-            write(3, worldText());
-            call("world", 3);
+            pair.write(3, worldText());
+            pair.call("world", 3);
         }
-        for (int i = 0; i < calls && alike; i++) {
+        for (int i = 0; i < calls && pair.isAlike(); i++) {
             int what = lots.nextInt(24);
             if (what == 0) {
-                write(lots.nextInt(4), lots.nextInt(3) == 0 ? brokenText() : worldText());
-                call(lots.nextBoolean() ? "fault" : "world", lots.nextInt(4));
+                pair.write(lots.nextInt(4), lots.nextInt(3) == 0 ? brokenText() : worldText());
+                pair.call(lots.nextBoolean() ? "fault" : "world", lots.nextInt(4));
             } else if (what <= 3) {
                 layOrder();
             } else if (what == 4) {
@@ -82,7 +74,7 @@ public final class ModelTest {
                 String[] words = line.split(" ");
                 int[] numbers = new int[words.length - 2];
                 for (int i = 0; i < numbers.length; i++) numbers[i] = number(words[i + 1]);
-                call(words[0], numbers);
+                pair.call(words[0], numbers);
                 return;
             }
         }
@@ -191,69 +183,20 @@ public final class ModelTest {
         return out.length() > 120 ? out.substring(0, 120) : out.toString();
     }
 
-    private void write(int t, String signs) {
-        call("text", t, signs.length());
-        for (int i = 0; i < signs.length(); i++) {
-            if (program.put(t, i, signs.charAt(i)) != model.put(t, i, signs.charAt(i))) {
-                check.due("put", 0, 1);
-            }
-        }
-        done.add("write " + t + " '" + signs + "'");
-    }
-
     private void layOrder() {
         int r = lots.nextInt(6);
         int n = model.count(0);
-        call("row", r, n);
+        pair.call("row", r, n);
         List<Integer> left = new ArrayList<>();
         for (int a = 0; a < n; a++) left.add(a);
-        for (int i = 0; i < n; i++) call("lay", r, i, left.remove(lots.nextInt(left.size())));
+        for (int i = 0; i < n; i++) pair.call("lay", r, i, left.remove(lots.nextInt(left.size())));
     }
 
     private void reImage() {
         int r = lots.nextInt(6);
-        call("image", r);
+        pair.call("image", r);
         int size = model.count(0) * (model.count(0) - 1) / 2 + 1;
-        for (int i = 0; i < 3; i++) call("lay", r, lots.nextInt(size), lots.nextInt(12) == 0 ? among(-1, 10) : lots.nextInt(4));
-        call("on", r);
-    }
-
-    private void call(String name, int... numbers) {
-        done.add(name + Arrays.toString(numbers));
-        long got = answer(program, TiedRow.class, name, numbers);
-        long want = answer(model, Model.class, name, numbers);
-        same(name, got, want);
-        same("asked", program.asked(), model.asked());
-        same("upper", program.upper(), model.upper());
-        same("lower", program.lower(), model.lower());
-        same("finding", program.finding(), model.finding());
-        for (int f = 1; f <= 5; f++) same("findings", program.findings(f), model.findings(f));
-        same("digest", program.digest(), model.digest());
-    }
-
-    private void same(String what, long got, long want) {
-        if (got != want && alike) {
-            alike = false;
-            int from = Math.max(0, done.size() - 12);
-            System.out.println("run " + run + ", things " + model.count(0) + ": .. " + done.subList(from, done.size()));
-        }
-        check.due(what, got, want);
-    }
-
-    private static long answer(Object on, Class<?> type, String name, int[] numbers) {
-        try {
-            for (Method method : type.getDeclaredMethods()) {
-                if (method.getName().equals(name) && method.getParameterCount() == numbers.length) {
-                    method.setAccessible(true);
-                    return ((Number) method.invoke(on, Arrays.stream(numbers).boxed().toArray())).longValue();
-                }
-            }
-        } catch (IllegalAccessException e) {
-            throw new IllegalStateException(e);
-        } catch (InvocationTargetException e) {
-            e.getCause().printStackTrace(System.out);
-            return Long.MIN_VALUE;
-        }
-        throw new IllegalStateException(name);
+        for (int i = 0; i < 3; i++) pair.call("lay", r, lots.nextInt(size), lots.nextInt(12) == 0 ? among(-1, 10) : lots.nextInt(4));
+        pair.call("on", r);
     }
 }

@@ -128,40 +128,37 @@ public final class RowsTest {
         }
     }
 
+    /** lay() or at(), by a row and a place. */
+    private interface ByPlace {
+        int on(TiedRow x, int r, int i);
+    }
+
     private static void layAndAtRefused() {
-        TiedRow x = Check.rich(WORLD);
         CHECK.says(3, "BAD; NOTHING; BEYOND.");
-        for (int r : NO_ROWS) {
-            CHECK.refuses("lay(" + r + ", 0)", x, BAD, () -> x.lay(r, 0, 1));
-            CHECK.refuses("lay(" + r + ", 60)", x, BAD, () -> x.lay(r, 60, 1));
-        }
-        for (int i : new int[] {0, -1, 60, LOW, HIGH}) {
-            CHECK.finds("lay(5, " + i + ") of a missing one", x, NOTHING, () -> x.lay(5, i, 1));
-        }
-        for (int i : new int[] {-1, 3, 59, 60, LOW, HIGH}) {
-            CHECK.finds("lay(0, " + i + ") of three", x, BEYOND, () -> x.lay(0, i, 1));
-        }
-        for (int i : Check.outside(0, 59)) {
-            CHECK.finds("lay(4, " + i + ") of sixty", x, BEYOND, () -> x.lay(4, i, 1));
-        }
+        refusedByPlace((x, r, i) -> x.lay(r, i, 1));
         CHECK.says(4, "BAD; NOTHING; BEYOND.");
+        refusedByPlace(TiedRow::at);
+    }
+
+    private static void refusedByPlace(ByPlace call) {
+        TiedRow x = Check.rich(WORLD);
         for (int r : NO_ROWS) {
-            CHECK.refuses("at(" + r + ", 0)", x, BAD, () -> x.at(r, 0));
-            CHECK.refuses("at(" + r + ", 60)", x, BAD, () -> x.at(r, 60));
+            CHECK.refuses("place 0 of row " + r, x, BAD, () -> call.on(x, r, 0));
+            CHECK.refuses("place 60 of row " + r, x, BAD, () -> call.on(x, r, 60));
         }
         for (int i : new int[] {0, -1, 60, LOW, HIGH}) {
-            CHECK.finds("at(5, " + i + ") of a missing one", x, NOTHING, () -> x.at(5, i));
+            CHECK.finds("place " + i + " of a missing one", x, NOTHING, () -> call.on(x, 5, i));
         }
         for (int i : new int[] {-1, 3, 59, 60, LOW, HIGH}) {
-            CHECK.finds("at(0, " + i + ") of three", x, BEYOND, () -> x.at(0, i));
+            CHECK.finds("place " + i + " of three", x, BEYOND, () -> call.on(x, 0, i));
         }
         for (int i : Check.outside(0, 59)) {
-            CHECK.finds("at(4, " + i + ") of sixty", x, BEYOND, () -> x.at(4, i));
+            CHECK.finds("place " + i + " of sixty", x, BEYOND, () -> call.on(x, 4, i));
         }
         x.row(5, 0);
-        CHECK.finds("at(5, 0) of an empty one", x, BEYOND, () -> x.at(5, 0));
+        CHECK.finds("place 0 of an empty one", x, BEYOND, () -> call.on(x, 5, 0));
         x.row(4, 1);
-        CHECK.finds("at(4, 1) of one that had more", x, BEYOND, () -> x.at(4, 1));
+        CHECK.finds("place 1 of one that had more", x, BEYOND, () -> call.on(x, 4, 1));
     }
 
     // ---- 5 tear

@@ -374,7 +374,7 @@ public final class TermsTest {
             x.row(2, n - 1);
             CHECK.finds("one less", x, SIZE, () -> x.breaks(2));
             int last = n - 1;
-            // By bits 32 and the last thing, or a number with the same lowest bits, would be that thing.
+            // Numbers whose lowest five bits are those of the last thing are not that thing.
             for (int wrong : new int[] {n, -1, last + 32, last - 32, last + 64, LOW + last, HIGH, LOW}) {
                 x.lay(0, last, wrong);
                 CHECK.finds("with " + wrong, x, UNLIKE, () -> x.breaks(0));
@@ -495,8 +495,7 @@ public final class TermsTest {
         CHECK.says(0, "An ORDER is ALLOWED, if it keeps all RULES that are not OFF.");
         TiedRow x = Check.worldOf("n3 A<B B<C A@0 B@1 C@2 A+B B+C B?AC");
         CHECK.due("one of six, by all eight", x.all(), 1);
-        int[] offs = {0, 1, 2, 3, 4, 5, 6, 7};
-        for (int k : offs) {
+        for (int k = 0; k < 8; k++) {
             x.off(k, 1);
         }
         CHECK.due("all, none of them counting", x.all(), 6);

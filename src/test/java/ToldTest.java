@@ -1,11 +1,12 @@
 import java.math.BigInteger;
+import java.util.List;
 import java.util.function.IntSupplier;
+import java.util.function.ToLongFunction;
 
 /** Promises 44 to 50: what is told, counts, findings, the digest. */
 public final class ToldTest {
     private static final int LOW = Check.LOW, HIGH = Check.HIGH, BAD = TiedRow.BAD;
-    private static final int NOTHING = Check.NOTHING, BEYOND = Check.BEYOND, UNLIKE = Check.UNLIKE, NOUGHT = Check.NOUGHT,
-        SIZE = Check.SIZE;
+    private static final int NOTHING = Check.NOTHING, BEYOND = Check.BEYOND, UNLIKE = Check.UNLIKE, NOUGHT = Check.NOUGHT;
     private static final Check CHECK = new Check("ToldTest");
 
     public static void main(String[] args) {
@@ -63,25 +64,54 @@ public final class ToldTest {
         CHECK.due("again and again", x.asked(), 4);
     }
 
-    /** Calls that tell nothing by asked() leave it as it is. */
+    private record Taken(String name, IntSupplier call) {
+    }
+
+    /** Calls of all kinds, none of which is refused: each is taken on a new object that is rich by TAKEN_WORLD. */
+    private static List<Taken> takenOn(TiedRow x) {
+        return List.of(
+            new Taken("row", () -> x.row(5, 3)), new Taken("lay", () -> x.lay(4, 0, 5)), new Taken("at", () -> x.at(4, 0)),
+            new Taken("tear", () -> x.tear(2)), new Taken("copy", () -> x.copy(0, 0, 1, 0, 3)), new Taken("mean", () -> x.mean(4)),
+            new Taken("text", () -> x.text(2, 3)), new Taken("put", () -> x.put(0, 0, 65)), new Taken("fault", () -> x.fault(0)),
+            new Taken("fault", () -> x.fault(3) + 9), new Taken("world", () -> x.world(3)), new Taken("tie", () -> x.tie(0, 1, 3)),
+            new Taken("tie", () -> x.tie(0, 1, TiedRow.NONE)), new Taken("rule", () -> x.rule(1, 0, 1, 0)),
+            new Taken("off", () -> x.off(0, 1)), new Taken("back", () -> x.back(0)), new Taken("told", () -> x.told(0, 0)),
+            new Taken("mark", () -> x.mark(0, 1)), new Taken("measure", () -> x.measure(4, 1)), new Taken("breaks", () -> x.breaks(1)),
+            new Taken("gap", () -> x.gap(0, 1)), new Taken("least", () -> x.least(4)), new Taken("first", () -> x.first(4, 5)),
+            new Taken("ways", () -> x.ways(4)), new Taken("rank", () -> x.rank(4, 0)), new Taken("order", () -> x.order(2, 0, 5)),
+            new Taken("all", x::all), new Taken("bound", () -> x.bound(0)), new Taken("costs", () -> x.costs(0, 0, 1)),
+            new Taken("costs", () -> x.costs(0, 0, 2)), new Taken("bars", () -> x.bars(2, 0)), new Taken("where", () -> x.where(0, 0, 0)),
+            new Taken("where", () -> x.where(0, 0, 2) + 9), new Taken("places", () -> x.places(4, 0)),
+            new Taken("middle", () -> x.middle(0, 0)), new Taken("leads", () -> x.leads(0, 0, 1)), new Taken("leads", () -> x.leads(0, 1, 0)),
+            new Taken("both", () -> x.both(0, 0)), new Taken("both", () -> x.both(0, 1)), new Taken("both", () -> x.both(4, 1)),
+            new Taken("both", () -> x.both(1, 4)), new Taken("must", x::must), new Taken("swaps", () -> x.swaps(0, 0)),
+            new Taken("moves", () -> x.moves(0, 0)), new Taken("apart", () -> x.apart(0, 1)), new Taken("draw", () -> x.draw(1, 5)),
+            new Taken("lots", () -> x.lots(0, 9, 1)), new Taken("average", x::average), new Taken("image", () -> x.image(5)),
+            new Taken("on", () -> x.image(5) - x.on(5)), new Taken("asked", () -> x.asked() + 777), new Taken("upper", () -> (int) x.upper()),
+            new Taken("lower", () -> (int) x.lower()), new Taken("count", () -> x.count(6)), new Taken("finding", x::finding),
+            new Taken("findings", () -> x.findings(5)), new Taken("digest", () -> x.digest() == x.digest() ? 0 : -1));
+    }
+
+    private static final String TAKEN_WORLD = "n3 AB3 BC1 A<B";
+
+    /** By each call that is taken: what is told of an object before and behind it, where it tells nothing of that itself. */
+    private static void staysBy(String what, List<String> tellers, ToLongFunction<TiedRow> told) {
+        int calls = takenOn(new TiedRow()).size();
+        for (int i = 0; i < calls; i++) {
+            TiedRow x = Check.rich(TAKEN_WORLD);
+            Taken each = takenOn(x).get(i);
+            long before = told.applyAsLong(x);
+            int answer = each.call.getAsInt();
+            CHECK.holds(each.name + " is taken, it answered " + answer, answer >= 0);
+            if (!tellers.contains(each.name)) {
+                CHECK.due(what + " behind " + each.name, told.applyAsLong(x), before);
+            }
+        }
+    }
+
     private static void askedByOthers() {
         CHECK.says(44, "What the latest lay(), at(), mean(), told(), gap(), leads(), both(), must(), swaps(), moves(), lots()");
-        TiedRow x = Check.rich("n3 AB2 BC1 A<B");
-        IntSupplier[] calls = {
-            () -> x.row(2, 3), () -> x.tear(2), () -> x.copy(0, 0, 1, 0, 3), () -> x.text(0, 3), () -> x.put(0, 0, 65),
-            () -> x.fault(3), () -> x.world(3), () -> x.tie(0, 1, 3), () -> x.rule(0, 0, 0, 0), () -> x.off(1, 1), () -> x.back(1),
-            () -> x.mark(0, 1), () -> x.draw(1, 1), () -> x.measure(0, 1), () -> x.breaks(1), () -> x.least(0),
-            () -> x.first(0, 2), () -> x.ways(0), () -> x.rank(0, 2), () -> x.order(0, 0, 2), x::all, () -> x.bound(0),
-            () -> x.costs(0, 0, 1), () -> x.bars(0, 0), () -> x.where(0, 0, 0), () -> x.places(0, 0), () -> x.middle(0, 0),
-            () -> x.apart(1, 2), x::average, () -> x.image(3), () -> x.on(3), () -> x.count(1), x::finding, () -> x.findings(1),
-            () -> (int) x.upper(), () -> (int) x.lower(), () -> (int) x.digest(), x::asked,
-        };
-        for (int i = 0; i < calls.length; i++) {
-            int answer = calls[i].getAsInt();
-            boolean taken = answer >= 0 || i >= calls.length - 4 || answer == TiedRow.NONE;
-            CHECK.holds("call " + i + " is taken, it answered " + answer, taken);
-            CHECK.due("behind call " + i, x.asked(), Check.RICH_ASKED);
-        }
+        staysBy("asked()", List.of("lay", "at", "mean", "told", "gap", "leads", "both", "must", "swaps", "moves", "lots"), TiedRow::asked);
     }
 
     private static void askedByRefused() {
@@ -139,6 +169,7 @@ public final class ToldTest {
         told("C is ahead of D, at 0", x, 0, 1);
         x.middle(0, 3);
         told("D is at 1 or 3", x, 2, 1);
+        staysBy("upper()", List.of("middle", "average"), TiedRow::upper);
     }
 
     private static void lower() {
@@ -158,6 +189,7 @@ public final class ToldTest {
         y.least(0);
         y.world(3);
         told("behind those that tell none", y, 5, 3);
+        staysBy("lower()", List.of("middle", "average"), TiedRow::lower);
     }
 
     // ---- 47 count
@@ -234,6 +266,7 @@ public final class ToldTest {
                 CHECK.due("the latest still", x.finding(), f);
             }
         }
+        staysBy("finding()", List.of(), TiedRow::finding);
     }
 
     private static void findings() {
@@ -253,6 +286,10 @@ public final class ToldTest {
         x.findings(0);
         for (int f = 1; f <= 5; f++) {
             CHECK.due("how often " + f, x.findings(f), times[f - 1]);
+        }
+        for (int f = 1; f <= 5; f++) {
+            int kind = f;
+            staysBy("findings(" + f + ")", List.of(), each -> each.findings(kind));
         }
     }
 

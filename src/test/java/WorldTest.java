@@ -111,14 +111,23 @@ public final class WorldTest {
         dueRule(x, 0, 1, 1, 0, 0, 0);
         x.at(4, 59);
         CHECK.due("a row stays", x.asked(), Check.RICH_ASKED);
-        Check.write(x, 2, "n10IJ8");
+        // Ties of things that are no more leave nothing behind, nor are they there again.
+        Check.write(x, 2, "n10AJ8IJ8");
         x.world(2);
         Check.write(x, 2, "n3");
         x.world(2);
+        Check.layOrder(x, 0, "ABC");
+        CHECK.due("no tie of an earlier one", x.count(1), 0);
+        for (int m = 0; m < 5; m++) {
+            CHECK.due("measure " + m, x.measure(m, 0), 0);
+            CHECK.due("bound " + m, x.bound(m), 0);
+            CHECK.due("least " + m, x.least(m), 0);
+        }
         Check.write(x, 2, "n10");
         x.world(2);
-        CHECK.due("no tie of an earlier one", x.tie(8, 9, NONE), 0);
+        CHECK.due("nor there again", x.tie(8, 9, NONE), 0);
         CHECK.due("no tie at all", x.count(1), 0);
+        CHECK.due("no tie in an order", x.least(0), 0);
         x.tie(0, 1, 5);
         x.rule(0, 0, 0, 0);
         x.world(2);

@@ -145,11 +145,17 @@ final class Check {
     /**
      * An object in which a change would be seen: little is as it was at first. Row 0 is the rising order, row 1 the
      * falling one, row 2 has a place too many, row 3 as many as due but numbers that are none, row 4 sixty ints, row 5
-     * is missing; text 0 has a fault at its end, text 1 has 120 bytes, text 2 is missing, text 3 is the world.
+     * is missing; text 0 has a fault at its end, text 1 has 120 bytes, text 2 is missing, text 3 is the world. Without
+     * things there are two rules, notes, the second of which is off.
      */
     static TiedRow rich(String signs) {
         TiedRow x = worldOf(signs);
         int n = x.count(0);
+        if (n == 0) {
+            x.rule(0, 0, 0, 0);
+            x.rule(0, 0, 0, 0);
+            x.off(1, 1);
+        }
         x.average();
         write(x, 0, "n2 AB7 B<");
         x.text(1, 120);
