@@ -38,6 +38,12 @@ final class Document {
         return words.replaceFirst("^`[^`]*`: ", "");
     }
 
+    /** The call that a promise is of. */
+    static String nameOf(int promise) {
+        Matcher heading = Pattern.compile("(?m)^## Promise " + promise + ": (.*)$").matcher(TEXT);
+        return heading.find() ? heading.group(1) : "";
+    }
+
     /** The terms alone. */
     static String terms() {
         return onOneLine(between("## Terms\n", "\nAhead of the calls"));
